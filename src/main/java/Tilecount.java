@@ -126,6 +126,7 @@ public final class Tilecount {
         if (!ground.isPiece(x, y, isAcross)) {
             throw new IndexOutOfBoundsException("there is no such piece");
         }
+        front.fillHaving();
         return say(front.withPiece(x, y, isAcross));
     }
 
@@ -324,7 +325,8 @@ public final class Tilecount {
         if (ground.size() > EXACT_CELLS) {
             throw new UnsupportedOperationException("the board has more than 24 cells");
         }
-        return (int) exactly.countAll();
+        exactly.refresh();
+        return (int) exactly.total;
     }
 
     public int unlike() throws UnsupportedOperationException {
@@ -339,7 +341,8 @@ public final class Tilecount {
         if (ground.size() > EXACT_CELLS) {
             throw new UnsupportedOperationException("the board has more than 24 cells");
         }
-        if (index < 0 || index >= exactly.countAll()) {
+        exactly.refresh();
+        if (index < 0 || index >= exactly.total) {
             throw new NoSuchElementException("there is no such exact cover");
         }
         if (!ground.holds(x, y)) {
@@ -422,6 +425,7 @@ public final class Tilecount {
         if (total <= 0) {
             throw new ArithmeticException("there are no covers");
         }
+        front.fillHaving();
         return (float) front.withPiece(x, y, isAcross) / (float) total;
     }
 
@@ -486,6 +490,7 @@ public final class Tilecount {
 
     private boolean piecesAreSound() {
         long total = front.total();
+        front.fillHaving();
         for (int y = 0; y < ground.height; y++) {
             for (int x = 0; x < ground.width; x++) {
                 if (ground.holds(x, y) && front.withCell(x, y) != total) {
@@ -507,14 +512,12 @@ public final class Tilecount {
         if (ground.size() > EXACT_CELLS) {
             return true;
         }
-        long total = exactly.countAll();
-        for (int i = 0; i <= SAMPLES; i++) {
-            long index = (total - 1) * i / SAMPLES;
-            if (total > 0) {
-                exactly.choose(index);
-                if (exactly.chosenNumber() != index) {
-                    return false;
-                }
+        exactly.refresh();
+        for (int i = 0; i <= SAMPLES && exactly.total > 0; i++) {
+            long index = (exactly.total - 1) * i / SAMPLES;
+            exactly.choose(index);
+            if (exactly.chosenNumber() != index) {
+                return false;
             }
         }
         return true;
@@ -678,7 +681,7 @@ public final class Tilecount {
         }
 
         private boolean holds(int x, int y) {
-            return isWithin(x, y) && (cells & bit(x, y)) != 0;
+            return x >= 0 && x < width && y >= 0 && y < height && (cells >>> (SIDE * y + x) & 1) != 0;
         }
 
         /** The column on the right, round if the board is rolled, or -1. */
@@ -932,14 +935,13 @@ public final class Tilecount {
             return (down & cell) != 0 ? DOWN : ROUND;
         }
 
+        /** How many covers have a piece, once fillHaving() has been called for the board. */
         private long withPiece(int x, int y, boolean isAcross) {
-            fillHaving();
             return having[2 * (Board.SIDE * y + x) + (isAcross ? 0 : 1)];
         }
 
-        /** How many covers have any piece with a cell, summed over the pieces. */
+        /** How many covers have any piece with a cell, summed over the pieces, as withPiece() tells them. */
         private long withCell(int x, int y) {
-            fillHaving();
             int before = x > 0 ? x - 1 : board.width - 1;
             long sum = 0;
             for (int i = 0; i < 2; i++) {
@@ -1154,8 +1156,6 @@ public final class Tilecount {
         private static final int CORNERS = 81;
         private static final int UNKNOWN = -9999;
         private static final int FLIP = 4;
-        private static final int[] STEP_X = {1, 0, -1, 0};
-        private static final int[] STEP_Y = {0, 1, 0, -1};
 
         private final Board board;
         private final int[] now;
@@ -1216,29 +1216,25 @@ public final class Tilecount {
             for (int i = 0; i < many && i < CORNERS; i++) {
                 int x = queue[i] % LINE;
                 int y = queue[i] / LINE;
-                for (int way = 0; way < STEP_X.length; way++) {
-                    int rise = riseAlong(x, y, way);
-                    int to = queue[i] + LINE * STEP_Y[way] + STEP_X[way];
-                    if (rise != 0 && into[to] == UNKNOWN && many < CORNERS) {
-                        into[to] = into[queue[i]] + rise;
-                        queue[many] = to;
-                        many++;
-                    }
-                }
+                many = reach(queue[i], 1, riseRight(x, y), many, into);
+                many = reach(queue[i], LINE, riseDown(x, y), many, into);
+                many = reach(queue[i], -1, -riseRight(x - 1, y), many, into);
+                many = reach(queue[i], -LINE, -riseDown(x, y - 1), many, into);
             }
         }
 
-        /** What the height rises along a side to the right, down, to the left or up; 0 if no cell has that side. */
-        private int riseAlong(int x, int y, int way) {
-            if (way == 0) {
-                return riseRight(x, y);
+        /** Tells the height of a corner one step on, if a side leads there, and answers how many are in the queue. */
+        private int reach(int from, int step, int rise, int many, int[] into) {
+            int to = from + step;
+            if (rise == 0 || to < 0 || to >= CORNERS || into[to] != UNKNOWN || many >= CORNERS) {
+                return many;
             }
-            if (way == 1) {
-                return riseDown(x, y);
-            }
-            return way == 2 ? -riseRight(x - 1, y) : -riseDown(x, y - 1);
+            into[to] = into[from] + rise;
+            queue[many] = to;
+            return many + 1;
         }
 
+        /** What the height rises along a side to the right, 0 if no cell has that side; so, too, down. */
         private int riseRight(int x, int y) {
             boolean isAbove = board.holds(x, y - 1);
             if (!isAbove && !board.holds(x, y)) {
@@ -1666,6 +1662,7 @@ public final class Tilecount {
         private final long[] shapes;
         private final int[] shapeCounts;
         private final int[] manyOf;
+        private final int[] sizeOf;
         private long typed;
         private int count;
         /** Grows with every change of the kinds, as that of a board. */
@@ -1675,6 +1672,7 @@ public final class Tilecount {
             shapes = new long[MOST_KINDS * MOTIONS];
             shapeCounts = new int[MOST_KINDS];
             manyOf = new int[MOST_KINDS];
+            sizeOf = new int[MOST_KINDS];
             typed = 0;
             count = 0;
             changes = 0;
@@ -1719,14 +1717,9 @@ public final class Tilecount {
                         x = LAST - y;
                         y = left;
                     }
-                    result |= bit(x, y);
+                    result |= 1L << (SIDE * y + x);
                 }
             }
-            return inCorner(result);
-        }
-
-        private static long inCorner(long shape) {
-            long result = shape;
             for (int i = 0; i < LAST && (result & ROW) == 0; i++) {
                 result >>>= SIDE;
             }
@@ -1788,6 +1781,7 @@ public final class Tilecount {
             if (count < MOST_KINDS) {
                 shapeCounts[count] = made;
                 manyOf[count] = many;
+                sizeOf[count] = Long.bitCount(typed);
                 count++;
                 typed = 0;
                 changes++;
@@ -1812,12 +1806,13 @@ public final class Tilecount {
 
     /**
      * Exact covers of up to 24 cells. A state has the covered cells, the motions of the board that still take each
-     * piece to one of its kind (none told if they are not asked for), how many pieces of the kinds that can run
-     * out are used, and the motion that is to take the cover to itself.
+     * piece to one of its kind (none told if they are not asked for), how many pieces of each kind are left, and the
+     * motion that is to take the cover to itself.
      */
     private static final class Exact {
         private static final int MOST_PIECES = 8;
         private static final int ROOM = 1152;
+        private static final int OPENINGS = 288;
         private static final int KEYS = 2048;
         private static final int KEY_BITS = 11;
         private static final int LONG_BITS = 64;
@@ -1839,12 +1834,13 @@ public final class Tilecount {
         private final int[] movedTo;
         private final long[] keys;
         private final long[] values;
+        /** How many covers begin with each piece at the first cell: eight shapes of six cells of six kinds at most. */
+        private final long[] openings;
         private final int[] chosen;
         private int chosenCount;
         private int cellCount;
         private int pieceCount;
         private int group;
-        private int scarce;
         private int boardAt;
         private int kindsAt;
         private long total;
@@ -1860,14 +1856,10 @@ public final class Tilecount {
             movedTo = new int[Kinds.MOTIONS * EXACT_CELLS];
             keys = new long[KEYS];
             values = new long[KEYS];
+            openings = new long[OPENINGS];
             chosen = new int[MOST_PIECES];
             boardAt = -1;
             kindsAt = -1;
-        }
-
-        private long countAll() {
-            refresh();
-            return total;
         }
 
         private void refresh() {
@@ -1880,8 +1872,13 @@ public final class Tilecount {
             Arrays.fill(keys, 0);
             boardAt = board.changes;
             kindsAt = kinds.changes;
-            total = search(0, 0);
             unlikeTotal = -1;
+            total = cellCount == 0 ? 1 : 0;
+            for (int i = 0; i < starts[Math.min(1, cellCount)] && i < OPENINGS; i++) {
+                long after = with(beginning(), pieces[i]);
+                openings[i] = after < 0 ? 0 : search(after, 1);
+                total += openings[i];
+            }
         }
 
         /** The covers that each motion leaves as they are, each weighed by how many others there are like it. */
@@ -1891,7 +1888,8 @@ public final class Tilecount {
                 long sum = 0;
                 for (int motion = 0; motion < Kinds.MOTIONS; motion++) {
                     if ((group >>> motion & 1) != 0) {
-                        sum += search(((long) motion << MOTION_AT) | ((long) group << MOTIONS_AT), 0);
+                        long asked = ((long) motion << MOTION_AT) | ((long) group << MOTIONS_AT);
+                        sum += search(asked | beginning(), 0);
                     }
                 }
                 unlikeTotal = sum / WEIGHT;
@@ -1945,7 +1943,6 @@ public final class Tilecount {
         /** The places of pieces by their first cell, then by kind, then by their cells, as covers are numbered. */
         private void collect() {
             pieceCount = 0;
-            scarce = 0;
             for (int first = 0; first < cellCount; first++) {
                 starts[first] = pieceCount;
                 for (int kind = 0; kind < kinds.count; kind++) {
@@ -1953,12 +1950,27 @@ public final class Tilecount {
                 }
             }
             starts[cellCount] = pieceCount;
+        }
+
+        private long beginning() {
+            long left = 0;
             for (int kind = 0; kind < kinds.count; kind++) {
-                int size = Long.bitCount(kinds.shapes[kind * Kinds.MOTIONS]);
-                if ((kinds.manyOf[kind] + 1) * size <= cellCount) {
-                    scarce |= 1 << kind;
-                }
+                left |= (long) kinds.manyOf[kind] << (KIND_AT + 4 * kind);
             }
+            return bounded(left);
+        }
+
+        /** A state with no more pieces left of any kind than the open cells have room for, so that few are unlike. */
+        private long bounded(long state) {
+            int open = cellCount - Long.bitCount(state & CELLS);
+            long result = state;
+            for (int kind = 0; kind < kinds.count; kind++) {
+                int at = KIND_AT + 4 * kind;
+                long left = state >>> at & 15;
+                long room = open / Math.max(kinds.sizeOf[kind], 1);
+                result -= Math.max(left - room, 0) << at;
+            }
+            return result;
         }
 
         private void collectKind(int first, int kind) {
@@ -1995,7 +2007,8 @@ public final class Tilecount {
                     int x = aside + i % Kinds.SIDE;
                     x = board.isRolled ? Math.floorMod(x, board.width) : x;
                     int y = below + i / Kinds.SIDE;
-                    int index = board.holds(x, y) ? indexOf[Board.SIDE * y + x] : -1;
+                    boolean isInside = x >= 0 && x < Board.SIDE && y >= 0 && y < Board.SIDE;
+                    int index = isInside ? indexOf[Board.SIDE * y + x] : -1;
                     if (index < first || (covered >>> index & 1) != 0) {
                         return 0;
                     }
@@ -2077,24 +2090,18 @@ public final class Tilecount {
             long result = state & ~(MOTIONS & ~piece);
             int first = (int) (piece & CELLS);
             int covered = first;
-            int used = KIND_AT + 4 * kind;
+            int left = KIND_AT + 4 * kind;
             for (int i = 0; i < 4; i++) {
-                if ((result & covered) != 0) {
+                if ((result & covered) != 0 || (result >>> left & 15) == 0) {
                     return -1;
                 }
-                result |= covered;
-                if ((scarce >>> kind & 1) != 0) {
-                    if ((result >>> used & 15) >= kinds.manyOf[kind]) {
-                        return -1;
-                    }
-                    result += 1L << used;
-                }
+                result = (result | covered) - (1L << left);
                 covered = imageOf(covered, motion);
                 if (covered == first) {
                     break;
                 }
             }
-            return result;
+            return bounded(result);
         }
 
         private int imageOf(int covered, int motion) {
@@ -2110,16 +2117,16 @@ public final class Tilecount {
             return image;
         }
 
-        /** Chooses the pieces of the exact cover of a number, once countAll() has been called. */
+        /** Chooses the pieces of the exact cover of a number, once refresh() has been called. */
         private void choose(long number) {
             long left = number;
-            long state = 0;
+            long state = beginning();
             chosenCount = 0;
             for (int depth = 0; depth < MOST_PIECES && firstOpen(state) < cellCount; depth++) {
                 int open = firstOpen(state);
                 for (int i = starts[open]; i < starts[open + 1]; i++) {
                     long after = with(state, pieces[i]);
-                    long many = after < 0 ? 0 : search(after, depth + 1);
+                    long many = depth == 0 && i < OPENINGS ? openings[i] : (after < 0 ? 0 : search(after, depth + 1));
                     if (left < many) {
                         chosen[depth] = i;
                         chosenCount = depth + 1;
@@ -2133,21 +2140,16 @@ public final class Tilecount {
 
         private long chosenNumber() {
             long sum = 0;
-            long state = 0;
-            for (int depth = 0; depth < chosenCount; depth++) {
+            long state = beginning();
+            for (int depth = 0; depth < chosenCount && state >= 0; depth++) {
                 int open = firstOpen(state);
-                int end = open < cellCount ? chosen[depth] : 0;
-                for (int i = open < cellCount ? starts[open] : 0; i < end; i++) {
+                for (int i = open < cellCount ? starts[open] : 0; i < chosen[depth]; i++) {
                     long after = with(state, pieces[i]);
-                    sum += after < 0 ? 0 : search(after, depth + 1);
+                    sum += depth == 0 && i < OPENINGS ? openings[i] : (after < 0 ? 0 : search(after, depth + 1));
                 }
-                long after = with(state, pieces[chosen[depth]]);
-                if (after < 0) {
-                    return -1;
-                }
-                state = after;
+                state = with(state, pieces[chosen[depth]]);
             }
-            return sum;
+            return state < 0 ? -1 : sum;
         }
 
         private int chosenKind(int x, int y) {
