@@ -26,6 +26,8 @@ public final class OracleTest {
         long first = args.length > 1 ? Long.parseLong(args[1]) : 1;
         for (long seed = first; seed < first + runs; seed++) {
             new Run(seed).go();
+            new Run(seed).goExact();
+            new Run(seed).goCovers();
         }
         System.out.println(runs + " runs, " + calls + " calls, " + thrown + " of them throw, " + wrong + " wrong");
         if (wrong > 0) {
@@ -49,7 +51,11 @@ public final class OracleTest {
 
         void go() throws Exception {
             int mode = chance.nextInt(4);
-            startBoard();
+            if (chance.nextInt(6) == 0) {
+                startBlocks();
+            } else {
+                startBoard();
+            }
             if (mode == 2) {
                 makeKinds();
             }
@@ -65,6 +71,48 @@ public final class OracleTest {
                 same("checksum()", real::checksum, model::checksum);
                 same("isSound()", real::isSound, () -> true);
                 same("checksum()", real::checksum, model::checksum);
+            }
+        }
+
+        /** Kinds on a small board: each exact cover that is numbered low, told cell by cell. */
+        void goExact() {
+            startBoard();
+            int kinds = 1 + chance.nextInt(5);
+            for (int i = 0; i < kinds; i++) {
+                makeKind();
+            }
+            same("exact()", real::exact, model::exact);
+            same("unlike()", real::unlike, model::unlike);
+            int many = isOff ? 0 : Math.min(model.exactSize(), 12);
+            for (int i = 0; i < many; i++) {
+                int index = model.exactSize() - 1 - i < 6 ? model.exactSize() - 1 - i : i * i;
+                for (int y = 0; y < model.h; y++) {
+                    for (int x = 0; x < model.w; x++) {
+                        int column = x;
+                        int row = y;
+                        same("kindAt " + index + " " + x + " " + y,
+                            () -> real.kindAt(index, column, row), () -> model.kindAt(index, column, row));
+                    }
+                }
+            }
+        }
+
+        /** All covers of a board one after the other, forward or backward, told cell by cell. */
+        void goCovers() {
+            startBoard();
+            same("covers()", real::covers, model::countCovers);
+            same("draw 0", () -> real.draw(0), () -> model.draw(0));
+            boolean isForward = chance.nextBoolean();
+            for (int i = 0; i < 40 && !isOff; i++) {
+                same("checksum()", real::checksum, model::checksum);
+                if (isForward) {
+                    same("next()", real::next, model::next);
+                } else {
+                    same("previous()", real::previous, model::previous);
+                }
+                same("flips()", real::flips, model::flips);
+                same("cuts()", real::cuts, model::cuts);
+                same("number()", real::number, model::number);
             }
         }
 
@@ -85,6 +133,27 @@ public final class OracleTest {
                 int y = chance.nextInt(h);
                 same("cut " + x + " " + y, () -> real.cut(x, y), () -> model.cut(x, y));
             }
+        }
+
+        /** Blocks of two by two that hang together on a wide board, so that there are loops and covers. */
+        private void startBlocks() {
+            board(8, 8);
+            Set<Integer> blocks = new TreeSet<>();
+            int block = chance.nextInt(16);
+            for (int i = 0; i < 60 && blocks.size() < 4 + chance.nextInt(5); i++) {
+                blocks.add(block);
+                int x = Math.floorMod(block % 4 + (chance.nextBoolean() ? 1 - 2 * chance.nextInt(2) : 0), 4);
+                int y = Math.floorMod(block / 4 + (chance.nextBoolean() ? 1 - 2 * chance.nextInt(2) : 0), 4);
+                block = 4 * y + x;
+            }
+            for (int i = 0; i < 64; i++) {
+                int x = i % 8;
+                int y = i / 8;
+                if (!blocks.contains(4 * (y / 2) + x / 2) || chance.nextInt(60) == 0) {
+                    same("cut " + x + " " + y, () -> real.cut(x, y), () -> model.cut(x, y));
+                }
+            }
+            same("loops", real::loops, model::loops);
         }
 
         private void board(int w, int h) {
@@ -1051,6 +1120,10 @@ public final class OracleTest {
             if (size() > 24 || (isFlat && isRolled)) {
                 throw new UnsupportedOperationException();
             }
+        }
+
+        int exactSize() {
+            return size() > 24 ? 0 : exactCovers().size();
         }
 
         Object exact() {

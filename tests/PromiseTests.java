@@ -1006,6 +1006,12 @@ public final class PromiseTests {
         type(v, 0, 0, 1, 0, 2, 0, 3, 0, 4, 0, 5, 0);
         v.kind(true, true, 8);
         due(v.exact(), 0);
+        v.board(4, 2);
+        v.roll(true);
+        due(v.exact(), 0);
+        type(v, 0, 0, 1, 0, 2, 0, 3, 0);
+        v.kind(false, false, 8);
+        due(v.exact(), 1);
         Tilecount big = of(6, 4);
         type(big, 0, 0, 1, 0, 0, 1);
         big.kind(true, true, 8);
@@ -1050,6 +1056,24 @@ public final class PromiseTests {
         throwing(v, CANT, v::unlike);
         due(new Tilecount().unlike(), 1);
         due(of(1, 1).unlike(), 0);
+        Tilecount square = of(6, 6);
+        for (int i = 0; i < 36; i++) {
+            if (i % 6 == 0 || i % 6 == 5 || i < 6 || i >= 30) {
+                square.cut(i % 6, i / 6);
+            }
+        }
+        type(square, 0, 0, 1, 0, 2, 0, 3, 0);
+        square.kind(true, false, 8);
+        due(square.exact(), 2);
+        due(square.unlike(), 1);
+        square.board(6, 5);
+        for (int i = 0; i < 30; i++) {
+            if (i % 6 == 0 || i % 6 == 5 || i < 6) {
+                square.cut(i % 6, i / 6);
+            }
+        }
+        due(square.exact(), 2);
+        due(square.unlike(), 2);
         Tilecount one = of(3, 2);
         type(one, 0, 0, 1, 0, 0, 1);
         one.kind(false, false, 2);
