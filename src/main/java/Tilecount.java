@@ -774,6 +774,7 @@ public final class Tilecount {
         private static final int MASKS = 256;
         private static final int STATES = 512;
         private static final int WAITING = 256;
+        private static final int ANY = -1;
         private static final int WAYS = 4;
         private static final int NOTHING = 0;
         private static final int RIGHT = 1;
@@ -834,7 +835,7 @@ public final class Tilecount {
                 Arrays.fill(fromRow, 0);
                 fromRow[board.height * MASKS] = 1;
                 for (int y = board.height - 1; y >= 0; y--) {
-                    prepareRow(y);
+                    prepareRow(y, ANY);
                     System.arraycopy(fromCell, 0, fromRow, y * MASKS, 1 << board.width);
                 }
                 countedAt = board.changes;
@@ -842,13 +843,18 @@ public final class Tilecount {
             return fromRow[0];
         }
 
-        private void prepareRow(int y) {
+        /** Fills fromCell for all that can come of one state at the beginning of the row, or of any one. */
+        private void prepareRow(int y, int begin) {
             int masks = 1 << board.width;
             int end = board.width * STATES;
             System.arraycopy(fromRow, (y + 1) * MASKS, fromCell, end, masks);
             Arrays.fill(fromCell, end + WAITING, end + STATES, 0);
             for (int x = board.width - 1; x >= 0; x--) {
-                for (int mask = 0; mask < masks; mask++) {
+                // The columns on the right of the cell stand as they did at the beginning of the row.
+                int free = begin == ANY ? masks : 2 << x;
+                int fixed = begin == ANY ? 0 : begin & -free & (MASKS - 1);
+                for (int i = 0; i < free; i++) {
+                    int mask = fixed | i;
                     fromCell[x * STATES + mask] = sumOnward(x, y, mask);
                     if (board.isRolled) {
                         fromCell[x * STATES + mask + WAITING] = sumOnward(x, y, mask + WAITING);
@@ -876,7 +882,7 @@ public final class Tilecount {
             madeRight = 0;
             madeDown = 0;
             for (int y = 0; y < board.height; y++) {
-                prepareRow(y);
+                prepareRow(y, state);
                 for (int x = 0; x < board.width; x++) {
                     for (int way = 0; way < WAYS; way++) {
                         int next = after(x, y, state, way);
@@ -909,7 +915,7 @@ public final class Tilecount {
             long sum = 0;
             int state = 0;
             for (int y = 0; y < board.height; y++) {
-                prepareRow(y);
+                prepareRow(y, state);
                 for (int x = 0; x < board.width; x++) {
                     int taken = wayTaken(x, y, state, right, down);
                     for (int way = 0; way < taken; way++) {
@@ -962,7 +968,7 @@ public final class Tilecount {
             Arrays.fill(come, 0);
             come[0] = 1;
             for (int y = 0; y < board.height; y++) {
-                prepareRow(y);
+                prepareRow(y, ANY);
                 for (int x = 0; x < board.width; x++) {
                     Arrays.fill(go, 0);
                     goOn(x, y);
