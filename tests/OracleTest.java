@@ -76,10 +76,18 @@ public final class OracleTest {
 
         /** Kinds on a small board: each exact cover that is numbered low, told cell by cell. */
         void goExact() {
-            startBoard();
+            if (chance.nextBoolean()) {
+                startBoard();
+            } else {
+                startEven();
+            }
             int kinds = 1 + chance.nextInt(5);
             for (int i = 0; i < kinds; i++) {
-                makeKind();
+                if (chance.nextInt(3) == 0) {
+                    makeCorner();
+                } else {
+                    makeKind();
+                }
             }
             same("exact()", real::exact, model::exact);
             same("unlike()", real::unlike, model::unlike);
@@ -95,6 +103,38 @@ public final class OracleTest {
                     }
                 }
             }
+        }
+
+        /** Boards that all turns and mirrorings take to themselves. */
+        private void startEven() {
+            int n = 3 + chance.nextInt(4);
+            board(n, n);
+            boolean[] isLeft = new boolean[64];
+            for (int i = 0; i < 64; i++) {
+                int x = i % 8;
+                int y = i / 8;
+                if (x < n && y < n) {
+                    int a = Math.min(x, n - 1 - x);
+                    int b = Math.min(y, n - 1 - y);
+                    int like = 8 * Math.min(a, b) + Math.max(a, b);
+                    isLeft[i] = like == i ? chance.nextInt(5) < 3 : isLeft[like];
+                    if (!isLeft[i]) {
+                        same("cut " + x + " " + y, () -> real.cut(x, y), () -> model.cut(x, y));
+                    }
+                }
+            }
+        }
+
+        /** Pieces that a diagonal takes to themselves, so that turning and mirroring them can be the same. */
+        private void makeCorner() {
+            int size = 2 + chance.nextInt(2);
+            for (int i = 0; i < size; i++) {
+                pieceCell(i, 2);
+                pieceCell(0, 2 - i);
+            }
+            boolean isMirrored = chance.nextInt(3) > 0;
+            same("kind false " + isMirrored, () -> real.kind(false, isMirrored, 8),
+                () -> model.kind(false, isMirrored, 8));
         }
 
         /** All covers of a board one after the other, forward or backward, told cell by cell. */

@@ -2090,37 +2090,40 @@ public final class Tilecount {
         private long with(long state, long piece) {
             int motion = (int) (state >>> MOTION_AT);
             int kind = (int) (piece >>> KIND_AT);
-            if (motion != 0 && (piece >>> (MOTIONS_AT + motion) & 1) == 0) {
-                return -1;
-            }
-            long result = state & ~(MOTIONS & ~piece);
-            int first = (int) (piece & CELLS);
-            int covered = first;
             int left = KIND_AT + 4 * kind;
+            long result = state;
+            long put = piece;
             for (int i = 0; i < 4; i++) {
-                if ((result & covered) != 0 || (result >>> left & 15) == 0) {
+                if ((result & put & CELLS) != 0 || (result >>> left & 15) == 0) {
                     return -1;
                 }
-                result = (result | covered) - (1L << left);
-                covered = imageOf(covered, motion);
-                if (covered == first) {
+                result = (result & ~(MOTIONS & ~put) | put & CELLS) - (1L << left);
+                put = motion == 0 ? piece : imageOf(put, kind, motion);
+                if (put < 0) {
+                    return -1;
+                }
+                if (put == piece) {
                     break;
                 }
             }
             return bounded(result);
         }
 
-        private int imageOf(int covered, int motion) {
-            if (motion == 0) {
-                return covered;
-            }
-            int image = 0;
+        /** What a motion makes of a piece, or -1 if that is none of its kind, so that it has no place here. */
+        private long imageOf(long piece, int kind, int motion) {
+            long image = 0;
             for (int i = 0; i < cellCount; i++) {
-                if ((covered >>> i & 1) != 0) {
-                    image |= 1 << movedTo[motion * EXACT_CELLS + i];
+                if ((piece >>> i & 1) != 0) {
+                    image |= 1L << movedTo[motion * EXACT_CELLS + i];
                 }
             }
-            return image;
+            int first = Math.min(Long.bitCount(~image & (image - 1)), EXACT_CELLS - 1);
+            for (int i = starts[first]; i < starts[first + 1]; i++) {
+                if ((pieces[i] & CELLS) == image && pieces[i] >>> KIND_AT == kind) {
+                    return pieces[i];
+                }
+            }
+            return -1;
         }
 
         /** Chooses the pieces of the exact cover of a number, once refresh() has been called. */
