@@ -712,6 +712,11 @@ public final class PromiseTests {
     }
 
     static void promise24() {
+        Tilecount empty = new Tilecount();
+        empty.draw(0);
+        throwing(empty, NONE, empty::apart);
+        empty.keep();
+        due(empty.apart(), 0);
         Tilecount t = of(8, 8);
         throwing(t, NONE, t::apart);
         t.draw(0);

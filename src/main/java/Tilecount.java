@@ -2415,7 +2415,8 @@ public final class Tilecount {
         private static int mateOf(int key, int place, int step) {
             int own = step > 0 ? OPENS : CLOSES;
             int open = 1;
-            for (int at = place + step; at >= 0 && at <= Board.SIDE; at += step) {
+            for (int i = 1; i <= Board.SIDE; i++) {
+                int at = Math.max(0, Math.min(place + step * i, Board.SIDE));
                 int end = key >>> (2 * at) & 3;
                 if (end != 0) {
                     open += end == own ? 1 : -1;
