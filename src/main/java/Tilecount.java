@@ -2416,7 +2416,10 @@ public final class Tilecount {
             int own = step > 0 ? OPENS : CLOSES;
             int open = 1;
             for (int i = 1; i <= Board.SIDE; i++) {
-                int at = Math.max(0, Math.min(place + step * i, Board.SIDE));
+                int at = place + step * i;
+                if (at < 0 || at > Board.SIDE) {
+                    break;
+                }
                 int end = key >>> (2 * at) & 3;
                 if (end != 0) {
                     open += end == own ? 1 : -1;
