@@ -1984,7 +1984,8 @@ public final class Tilecount {
             for (int i = 0; i < kinds.shapeCounts[kind]; i++) {
                 long shape = kinds.shapes[kind * Kinds.MOTIONS + i];
                 long tag = ((long) kind << KIND_AT) | motionsOf(kind, shape);
-                for (int part = 0; part < Kinds.SIDE * Kinds.SIDE; part++) {
+                // The first cell is in the upper row of the shape, but any one of it if the shape goes round.
+                for (int part = 0; part < Kinds.SIDE; part++) {
                     int covered = (shape >>> part & 1) != 0 ? coveredBy(shape, part, first) : 0;
                     if (covered != 0) {
                         insert(begin, tag | covered);
