@@ -1,5 +1,4 @@
 import java.math.BigInteger;
-import java.util.Arrays;
 import java.util.NoSuchElementException;
 
 /** One method a promise of the document: ordinary inputs, the edges that it names, and wrong inputs. */
@@ -407,28 +406,15 @@ public final class PromiseTests {
         due(text(rolled(4, 1)), "2");
         due(text(rolled(8, 1)), "2");
         due(text(rolled(4, 3)), "32");
-        due(text(rolled(8, 8)), cylinder(8, 8));
-        due(text(rolled(6, 8)), cylinder(6, 8));
-        due(text(rolled(6, 5)), cylinder(6, 5));
+        due(text(rolled(8, 8)), Reckoned.round(8, 8));
+        due(text(rolled(6, 8)), Reckoned.round(6, 8));
+        due(text(rolled(6, 5)), Reckoned.round(6, 5));
         Tilecount u = of(8, 8);
         due(u.covers(), 8);
     }
 
     private static String text(Tilecount t) {
         return text(t, t.covers());
-    }
-
-    /** The product over the waves of a rolled board, for an even width; rounded. */
-    private static String cylinder(int w, int h) {
-        double product = 1;
-        for (int k = 1; k <= w; k++) {
-            for (int j = 1; j <= h; j++) {
-                double a = 2 * Math.sin(Math.PI * (2 * k - 1) / w);
-                double b = 2 * Math.cos(Math.PI * j / (h + 1));
-                product *= Math.sqrt(Math.sqrt(a * a + b * b));
-            }
-        }
-        return String.valueOf(Math.round(product));
     }
 
     static void promise12() {
@@ -1124,7 +1110,7 @@ public final class PromiseTests {
     static void promise36() {
         Tilecount t = new Tilecount();
         for (int width = 1; width <= 6; width++) {
-            BigInteger[] terms = strips(width, 300);
+            BigInteger[] terms = Reckoned.strips(width, 300);
             for (int length = 0; length <= 300; length += length < 20 || length > 290 ? 1 : 17) {
                 due(text(t, t.strip(width, length)), terms[length].toString());
             }
@@ -1139,44 +1125,10 @@ public final class PromiseTests {
         due(text(t, t.strip(1, 299)), "0");
     }
 
-    /** Covers of all lengths by a front of whole columns. */
-    private static BigInteger[] strips(int width, int most) {
-        BigInteger[] terms = new BigInteger[most + 1];
-        BigInteger[] ways = new BigInteger[1 << width];
-        Arrays.fill(ways, BigInteger.ZERO);
-        ways[0] = BigInteger.ONE;
-        for (int length = 0; length <= most; length++) {
-            terms[length] = ways[0];
-            BigInteger[] more = new BigInteger[1 << width];
-            Arrays.fill(more, BigInteger.ZERO);
-            for (int mask = 0; mask < 1 << width; mask++) {
-                for (int out = 0; out < 1 << width; out++) {
-                    if ((mask & out) == 0 && isPairs(mask | out, width)) {
-                        more[out] = more[out].add(ways[mask]);
-                    }
-                }
-            }
-            ways = more;
-        }
-        return terms;
-    }
-
-    private static boolean isPairs(int taken, int width) {
-        for (int x = 0; x < width; x++) {
-            if ((taken >> x & 1) == 0) {
-                if (x + 1 >= width || (taken >> (x + 1) & 1) != 0) {
-                    return false;
-                }
-                x++;
-            }
-        }
-        return true;
-    }
-
     static void promise37() {
         Tilecount t = new Tilecount();
         for (int width = 1; width <= 6; width++) {
-            due(t.order(width), leastOrder(strips(width, 60)));
+            due(t.order(width), leastOrder(Reckoned.strips(width, 60)));
         }
         throwing(t, BAD, () -> t.order(0));
         throwing(t, BAD, () -> t.order(7));
@@ -1220,7 +1172,7 @@ public final class PromiseTests {
     static void promise38() {
         Tilecount t = new Tilecount();
         for (int width = 1; width <= 6; width++) {
-            BigInteger[] terms = strips(width, 60);
+            BigInteger[] terms = Reckoned.strips(width, 60);
             int order = t.order(width);
             BigInteger[] factors = new BigInteger[order + 1];
             for (int i = 1; i <= order; i++) {
@@ -1248,20 +1200,6 @@ public final class PromiseTests {
         due(text(t, 1), "0");
     }
 
-    private static String boxes(int a, int b, int c) {
-        BigInteger top = BigInteger.ONE;
-        BigInteger bottom = BigInteger.ONE;
-        for (int i = 1; i <= a; i++) {
-            for (int j = 1; j <= b; j++) {
-                for (int k = 1; k <= c; k++) {
-                    top = top.multiply(BigInteger.valueOf(i + j + k - 1));
-                    bottom = bottom.multiply(BigInteger.valueOf(i + j + k - 2));
-                }
-            }
-        }
-        return top.divide(bottom).toString();
-    }
-
     static void promise39() {
         Tilecount t = new Tilecount();
         for (int i = 0; i < 512; i++) {
@@ -1272,7 +1210,7 @@ public final class PromiseTests {
             int a = i / 64 + 1;
             int b = i / 8 % 8 + 1;
             int c = i % 8 + 1;
-            due(text(u, u.hexagon(a, b, c)), boxes(a, b, c));
+            due(text(u, u.hexagon(a, b, c)), Reckoned.boxes(a, b, c));
         }
         wrongSides(t, true);
     }
@@ -1297,7 +1235,7 @@ public final class PromiseTests {
             int a = i / 64 + 1;
             int b = i / 8 % 8 + 1;
             int c = i % 8 + 1;
-            due(text(t, t.heaps(a, b, c)), boxes(a, b, c));
+            due(text(t, t.heaps(a, b, c)), Reckoned.boxes(a, b, c));
         }
         due(text(t, t.heaps(2, 2, 2)), "20");
         due(text(t, t.heaps(1, 1, 1)), "2");

@@ -192,7 +192,17 @@ final class BoardBoundary extends Checks {
 
     // ---- 4 ----
 
-    @Says(at = 4, is = {"`x`: its x", "`y`: its y", "Takes a cell away."})
+    @Says(at = 4, is = "`x`: its x")
+    static void aCellTakenAwayHasAnXFromNoughtToOneLess() {
+        range(INDEX, () -> busy(of(4, 2)), 0, 3, (t, n) -> t.cut(n, 1));
+    }
+
+    @Says(at = 4, is = "`y`: its y")
+    static void aCellTakenAwayHasAYFromNoughtToOneLess() {
+        range(INDEX, () -> busy(of(4, 2)), 0, 1, (t, n) -> t.cut(3, n));
+    }
+
+    @Says(at = 4, is = "Takes a cell away.")
     static void theCellsAtTheRimCanBeTakenAway() {
         int[][] rim = {{0, 0}, {7, 0}, {0, 7}, {7, 7}};
         for (int[] cell : rim) {
@@ -232,7 +242,17 @@ final class BoardBoundary extends Checks {
 
     // ---- 5 ----
 
-    @Says(at = 5, is = {"`x`: its x", "`y`: its y", "Puts a missing cell there."})
+    @Says(at = 5, is = "`x`: its x")
+    static void aCellThatIsPutHasAnXFromNoughtToOneLess() {
+        range(INDEX, () -> laden(bare(4, 2)), 0, 3, (t, n) -> t.fill(n, 1));
+    }
+
+    @Says(at = 5, is = "`y`: its y")
+    static void aCellThatIsPutHasAYFromNoughtToOneLess() {
+        range(INDEX, () -> laden(bare(4, 2)), 0, 1, (t, n) -> t.fill(3, n));
+    }
+
+    @Says(at = 5, is = "Puts a missing cell there.")
     static void theCellsAtTheRimCanBePut() {
         int[][] rim = {{0, 0}, {7, 0}, {0, 7}, {7, 7}};
         for (int[] cell : rim) {

@@ -47,24 +47,37 @@ final class CountBoundary extends Checks {
         due(covers(rolled(8, 1)), "2");
         due(covers(rolled(4, 2)), "9");
         due(covers(rolled(4, 4)), "121");
-        due(covers(rolled(8, 8)), round(8, 8));
-        due(covers(rolled(6, 8)), round(6, 8));
+        due(covers(rolled(8, 8)), Reckoned.round(8, 8));
+        due(covers(rolled(6, 8)), Reckoned.round(6, 8));
         due(covers(rolledPicture("#..#")), "1");
         due(covers(rolledPicture("##.#")), "0");
         due(covers(rolledPicture("#...", "#...")), "1");
     }
 
-    /** The covers of a rolled board as a product over waves. */
-    private static String round(int w, int h) {
-        double product = 1;
-        for (int k = 1; k <= w; k++) {
-            for (int j = 1; j <= h; j++) {
-                double a = 2 * Math.sin(Math.PI * (2 * k - 1) / w);
-                double b = 2 * Math.cos(Math.PI * j / (h + 1));
-                product *= Math.sqrt(Math.sqrt(a * a + b * b));
+    @Says(at = 11, is = COVERS)
+    static void coversFollowEachChangeOfTheBoard() {
+        Tilecount t = rolled(8, 8);
+        t.covers();
+        for (int w = 8; w >= 1; w--) {
+            for (int h = 1; h <= 8; h += 3) {
+                t.board(w, h);
+                due(covers(t), covers(of(w, h)));
+                if (w == 4 || w == 6 || w == 8) {
+                    t.roll(true);
+                    due(covers(t), covers(rolled(w, h)));
+                    due(having(t, w - 1, 0, true), having(rolled(w, h), w - 1, 0, true));
+                    t.cut(w - 1, 0);
+                    due(covers(t), covers(rolledWithout(w, h)));
+                }
             }
         }
-        return String.valueOf(Math.round(product));
+    }
+
+    private static Tilecount rolledWithout(int w, int h) {
+        Tilecount t = of(w, h);
+        t.cut(w - 1, 0);
+        t.roll(true);
+        return t;
     }
 
     @Says(at = 11, is = "Returns how many signs the text has then.")
@@ -73,7 +86,7 @@ final class CountBoundary extends Checks {
         due(of(1, 1).covers(), 1);
         due(of(4, 4).covers(), 2);
         due(of(8, 8).covers(), 8);
-        due(rolled(8, 8).covers(), round(8, 8).length());
+        due(rolled(8, 8).covers(), Reckoned.round(8, 8).length());
     }
 
     // ---- 12 ----
@@ -94,6 +107,23 @@ final class CountBoundary extends Checks {
         due(bySigns(picture("##.#", ".#.#")), "0");
         due(bySigns(picture("#.##", "#.#.", "#...", "#...")), "0");
         due(bySigns(picture("#..#", "....", "#..#")), "0");
+    }
+
+    @Says(at = 12, is = "Puts how many covers the board has into the text, by a determinant with signs.")
+    static void bySignsIsNeverBelowNought() {
+        due(bySigns(picture("#..##", "#....")), "1");
+        due(bySigns(picture("#..##", "#..##")), "2");
+        for (int w = 2; w <= 8; w++) {
+            for (int h = 1; h <= 8; h++) {
+                for (int cut = 0; cut < w; cut++) {
+                    Tilecount t = of(w, h);
+                    t.cut(cut, 0);
+                    t.cut((cut + w - 1) % w, h - 1);
+                    String covers = covers(t);
+                    due(bySigns(t), covers);
+                }
+            }
+        }
     }
 
     @Says(at = 12, is = "Returns how many signs the text has then.")
@@ -173,12 +203,29 @@ final class CountBoundary extends Checks {
         refused(INDEX, () -> busy(of(1, 2)), t -> t.having(0, 0, true), t -> t.having(0, 1, true));
     }
 
+    @Says(at = 13, is = "Puts how many covers have a piece into the text.")
+    static void havingFollowsEachChangeOfTheBoard() {
+        Tilecount t = of(8, 8);
+        t.having(0, 0, true);
+        for (int w = 7; w >= 2; w--) {
+            t.board(w, 4);
+            due(having(t, 0, 1, true), having(of(w, 4), 0, 1, true));
+            due(having(t, w - 1, 2, false), having(of(w, 4), w - 1, 2, false));
+            t.cut(w - 1, 3);
+            t.cut(w - 2, 3);
+            Tilecount fresh = of(w, 4);
+            fresh.cut(w - 1, 3);
+            fresh.cut(w - 2, 3);
+            due(having(t, 0, 0, true), having(fresh, 0, 0, true));
+        }
+    }
+
     @Says(at = 13, is = "Returns how many signs the text has then.")
     static void theSignsOfHavingAreCounted() {
         due(of(3, 3).having(0, 0, true), 1);
         due(of(4, 4).having(0, 0, true), 2);
         due(of(8, 8).having(0, 0, true), 7);
-        BigInteger half = new BigInteger(round(8, 8));
+        BigInteger half = new BigInteger(Reckoned.round(8, 8));
         Tilecount t = rolled(8, 8);
         BigInteger across = new BigInteger(having(t, 7, 0, true));
         BigInteger down = new BigInteger(having(t, 7, 0, false));

@@ -88,8 +88,14 @@ final class CoverBoundary extends Checks {
 
     // ---- 16 ----
 
-    @Says(at = 16, is = {"Goes on to the next cover, from the last one to the first one.",
-        "Returns false if it was the last one."})
+    @Says(at = 16, is = "Returns false if it was the last one.")
+    static void nextIsFalseOfTheLastCoverAlone() {
+        for (int i = 0; i < 9; i++) {
+            due(drawn(rolled(4, 2), i).next(), i < 8);
+        }
+    }
+
+    @Says(at = 16, is = "Goes on to the next cover, from the last one to the first one.")
     static void theFirstCoverFollowsTheLast() {
         Tilecount t = drawn(of(4, 4), 34);
         due(t.next(), true);
@@ -122,8 +128,14 @@ final class CoverBoundary extends Checks {
 
     // ---- 17 ----
 
-    @Says(at = 17, is = {"Goes back to the cover ahead, from the first one to the last one.",
-        "Returns false if it was the first one."})
+    @Says(at = 17, is = "Returns false if it was the first one.")
+    static void previousIsFalseOfTheFirstCoverAlone() {
+        for (int i = 0; i < 9; i++) {
+            due(drawn(rolled(4, 2), i).previous(), i > 0);
+        }
+    }
+
+    @Says(at = 17, is = "Goes back to the cover ahead, from the first one to the last one.")
     static void theLastCoverIsAheadOfTheFirst() {
         Tilecount t = drawn(of(4, 4), 1);
         due(t.previous(), true);
@@ -197,10 +209,18 @@ final class CoverBoundary extends Checks {
         }
     }
 
-    @Says(at = 19, is = {"`x`: its x", "`y`: its y", NO_CELL})
+    @Says(at = 19, is = "`x`: its x")
+    static void aCellHasAnXFromNoughtToOneLess() {
+        range(INDEX, () -> busy(of(4, 2)), 0, 3, (t, n) -> t.other(n, 1));
+    }
+
+    @Says(at = 19, is = "`y`: its y")
+    static void aCellHasAYFromNoughtToOneLess() {
+        range(INDEX, () -> busy(of(4, 2)), 0, 1, (t, n) -> t.other(3, n));
+    }
+
+    @Says(at = 19, is = NO_CELL)
     static void anotherCellThanThoseOfTheBoardIsRefused() {
-        beyond(INDEX, () -> busy(of(4, 2)), 0, 3, (t, n) -> t.other(n, 1));
-        beyond(INDEX, () -> busy(of(4, 2)), 0, 1, (t, n) -> t.other(1, n));
         refused(INDEX, () -> busy(form('a', 2)), t -> t.other(0, 0), t -> t.other(3, 3));
         refused(INDEX, () -> busy(rolled(4, 2)), t -> t.other(4, 0), t -> t.other(-1, 0));
         refused(INDEX, Tilecount::new, t -> t.other(0, 0));
@@ -370,7 +390,20 @@ final class CoverBoundary extends Checks {
         due(t.undo(), 0);
     }
 
-    @Says(at = 22, is = {UNDO, "Returns how many can be undone then."})
+    @Says(at = 22, is = "Returns how many can be undone then.")
+    static void thereAreNineToNoneLeftToUndo() {
+        Tilecount t = of(4, 4);
+        for (int i = 0; i < 10; i++) {
+            t.draw(i);
+        }
+        for (int left = 9; left >= 0; left--) {
+            due(t.undo(), left);
+        }
+        t.draw(0);
+        due(t.undo(), 0);
+    }
+
+    @Says(at = 22, is = UNDO)
     static void theKeptCoverAndTheTextAreNotUndone() {
         Tilecount t = of(4, 4);
         t.draw(0);
@@ -488,7 +521,17 @@ final class CoverBoundary extends Checks {
 
     // ---- 25 ----
 
-    @Says(at = 25, is = {"`x`: its x", "`y`: its y", "Returns the height of a corner.", "Returns the height."})
+    @Says(at = 25, is = "`x`: its x")
+    static void aCornerHasAnXFromNoughtToTheWidth() {
+        range(INDEX, () -> busy(of(4, 2)), 0, 4, (t, n) -> t.height(n, 2));
+    }
+
+    @Says(at = 25, is = "`y`: its y")
+    static void aCornerHasAYFromNoughtToTheHeight() {
+        range(INDEX, () -> busy(of(4, 2)), 0, 2, (t, n) -> t.height(4, n));
+    }
+
+    @Says(at = 25, is = {"Returns the height of a corner.", "Returns the height."})
     static void theCornersOfAWholeBoard() {
         int[] due = {0, -1, 0, 1, 2, 1, 0, -1, 0};
         Tilecount t = drawn(of(2, 2), 0);

@@ -98,6 +98,30 @@ final class FigureBoundary extends Checks {
         due(rooks(rolled(8, 1), 2), "0");
     }
 
+    @Says(at = 41, is = "Puts in how many ways rooks can stand on the board into the text.")
+    static void rooksAndLoopsFollowEachChangeOfTheBoard() {
+        Tilecount t = of(8, 8);
+        due(t.mostRooks(), 8);
+        due(rooks(t, 8), "40320");
+        due(rooks(t, 8), "40320");
+        t.board(4, 4);
+        due(loops(t), "6");
+        due(loops(t), "6");
+        due(t.mostRooks(), 4);
+        due(rooks(t, 5), "0");
+        t.cut(0, 0);
+        due(loops(t), "0");
+        due(rooks(t, 4), "18");
+        t.board(1, 1);
+        t.cut(0, 0);
+        due(loops(t), "0");
+        due(t.mostRooks(), 0);
+        t.board(2, 2);
+        due(loops(t), "1");
+        due(rooks(t, 1), "4");
+        due(t.mostRooks(), 2);
+    }
+
     @Says(at = 41, is = "`rooks`: how many, 0 to 8")
     static void thereAreNoughtToEightRooks() {
         range(BAD, () -> busy(of(4, 4)), 0, 8, Tilecount::rooks);
@@ -183,11 +207,21 @@ final class FigureBoundary extends Checks {
         return some / (float) Long.parseLong(text(t, t.covers()));
     }
 
-    @Says(at = 44, is = {"`x`: as in having()", "`y`: as in having()", "`isAcross`: whether the piece lies across"})
-    static void thePieceIsToldAsInHaving() {
+    @Says(at = 44, is = "`x`: as in having()")
+    static void xIsThatOfTheLeftCellOrTheLastOneOfTheRow() {
+        range(INDEX, () -> busy(of(4, 2)), 0, 2, (t, n) -> t.share(n, 0, true));
+        range(INDEX, () -> busy(rolled(4, 2)), 0, 3, (t, n) -> t.share(n, 0, true));
         due(rolled(4, 2).share(3, 0, true), 3f / 9f);
-        refused(INDEX, () -> busy(of(4, 2)), t -> t.share(3, 0, true), t -> t.share(0, 1, false));
-        refused(INDEX, () -> busy(rolled(4, 2)), t -> t.share(-1, 0, true), t -> t.share(4, 0, true));
+    }
+
+    @Says(at = 44, is = "`y`: as in having()")
+    static void yIsThatOfTheUpperCell() {
+        range(INDEX, () -> busy(of(2, 4)), 0, 2, (t, n) -> t.share(0, n, false));
+        range(INDEX, () -> busy(of(2, 4)), 0, 3, (t, n) -> t.share(0, n, true));
+    }
+
+    @Says(at = 44, is = "`isAcross`: whether the piece lies across")
+    static void thePieceLiesAcrossOrDown() {
         due(of(2, 1).share(0, 0, true), 1f);
         due(of(1, 2).share(0, 0, false), 1f);
         refused(INDEX, () -> busy(of(2, 1)), t -> t.share(0, 0, false));

@@ -28,6 +28,8 @@ final class FreeBoundary extends Checks {
         due(picture("#.#.#", "#####", "#.#.#").free(), 5);
         due(picture("..#.", "####", ".#..").free(), 2);
         due(picture(".##.", "####", ".##.").free(), 0);
+        due(picture("..#.", ".###", ".###", "..#.").free(), 0);
+        due(picture("###", "#..").free(), 0);
         due(picture("########", ".......#", "########", "#.......", "########", ".......#", ".#######").free(), 0);
         due(picture("########", ".......#", "########", "#.......", "########", ".......#", "########").free(), 1);
     }
@@ -40,6 +42,8 @@ final class FreeBoundary extends Checks {
         due(roles(picture("#####", "..#.."), 5, 2), "-----..-..");
         due(roles(picture("###", ".#."), 3, 2), "fnf.f.");
         due(roles(picture("###.", "...#"), 4, 2), "fnf....f");
+        due(roles(picture("###", "##."), 3, 2), "fnfnf.");
+        due(roles(picture("#..", "##.", "###"), 3, 3), "f..nf.fnf");
         due(roles(picture("######", ".#...."), 6, 2), "fn----.f....");
     }
 
@@ -126,10 +130,18 @@ final class FreeBoundary extends Checks {
         due(corner.role(6, 7), 'f');
     }
 
-    @Says(at = 28, is = {"`x`: its x", "`y`: its y", NO_CELL})
+    @Says(at = 28, is = "`x`: its x")
+    static void aCellHasAnXFromNoughtToOneLess() {
+        range(INDEX, () -> busy(of(4, 2)), 0, 3, (t, n) -> t.role(n, 1));
+    }
+
+    @Says(at = 28, is = "`y`: its y")
+    static void aCellHasAYFromNoughtToOneLess() {
+        range(INDEX, () -> busy(of(4, 2)), 0, 1, (t, n) -> t.role(3, n));
+    }
+
+    @Says(at = 28, is = NO_CELL)
     static void theRoleOfACellBesideTheBoardIsRefused() {
-        beyond(INDEX, () -> busy(of(4, 2)), 0, 3, (t, n) -> t.role(n, 1));
-        beyond(INDEX, () -> busy(of(4, 2)), 0, 1, (t, n) -> t.role(1, n));
         refused(INDEX, () -> busy(rolled(4, 2)), t -> t.role(4, 0), t -> t.role(-1, 0));
     }
 

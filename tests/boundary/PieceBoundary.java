@@ -19,6 +19,8 @@ final class PieceBoundary extends Checks {
     private static final String APART = "Throws `UnsupportedOperationException` if the cells do not hang together, or a "
         + "shape is of another kind";
 
+    private static final String[] CORNER = {"#######", "#......", "#......", "#......", "#......", "#......", "#......"};
+
     /** The kinds that kindAt() tells of all cells by rows. */
     private static String kinds(Tilecount t, int index, int w, int h) {
         StringBuilder kinds = new StringBuilder();
@@ -172,6 +174,29 @@ final class PieceBoundary extends Checks {
     }
 
     @Says(at = 0, is = EXACT)
+    static void noMorePiecesAreTakenOfAnyOfSixKinds() {
+        String[][] wide = {{"####"}, {"####", "#..."}, {"####", ".#.."}, {"####", "..#."}, {"####", "...#"}};
+        for (int place = 0; place < 6; place++) {
+            for (int many = 1; many <= 8; many++) {
+                Tilecount t = new Tilecount();
+                for (int i = 0; i < 5; i++) {
+                    if (i == place) {
+                        kind(t, false, false, many, "###");
+                    }
+                    kind(t, false, false, 8, wide[i]);
+                }
+                if (place == 5) {
+                    kind(t, false, false, many, "###");
+                }
+                for (int h = 1; h <= 8; h++) {
+                    t.board(3, h);
+                    due(t.exact(), h <= many ? 1 : 0);
+                }
+            }
+        }
+    }
+
+    @Says(at = 0, is = EXACT)
     static void anEmptyBoardHasOneExactCover() {
         due(new Tilecount().exact(), 1);
         due(bare(8, 8).exact(), 1);
@@ -237,16 +262,24 @@ final class PieceBoundary extends Checks {
         due(kinds(other, 0, 3, 3), "000000000");
     }
 
-    @Says(at = 0, is = AHEAD)
-    static void ofOneKindTheCellsThatComeFirstAreAhead() {
-        String[] corner = {"#######", "#......", "#......", "#......", "#......", "#......", "#......"};
-        Tilecount t = with(with(picture(corner), true, false, 3, "###"), true, false, 1, "####");
+    /** The four covers of a corner by three pieces of three cells and one of four. */
+    private static void cornerInOrder(Tilecount t) {
         due(t.exact(), 4);
         due(kinds(t, 0, 7, 1), "0001111");
         due(kinds(t, 1, 7, 1), "0000000");
         due(t.kindAt(1, 0, 3), 1);
         due(kinds(t, 2, 7, 1), "1111000");
         due(kinds(t, 3, 7, 1), "1000000");
+    }
+
+    @Says(at = 0, is = AHEAD)
+    static void ofOneKindTheCellsThatComeFirstAreAhead() {
+        cornerInOrder(with(with(picture(CORNER), true, false, 3, "###"), true, false, 1, "####"));
+    }
+
+    @Says(at = 0, is = AHEAD)
+    static void itDoesNotMatterWhichWayAShapeWasTyped() {
+        cornerInOrder(with(with(picture(CORNER), true, false, 3, "#", "#", "#"), true, false, 1, "#", "#", "#", "#"));
     }
 
     @Says(at = 0, is = AHEAD)
@@ -266,6 +299,16 @@ final class PieceBoundary extends Checks {
         due(with(of(4, 4), true, false, 4, "####").unlike(), 1);
         due(with(of(4, 4), true, true, 4, "###", "#..").unlike() < with(of(4, 4), true, true, 4, "###", "#..").exact(),
             true);
+    }
+
+    @Says(at = 0, is = ALIKE)
+    static void aCoverThatAQuarterTurnTakesToItselfCountsOnce() {
+        Tilecount ring = with(form('o', 4), true, false, 4, "###");
+        due(ring.exact(), 2);
+        due(ring.unlike(), 1);
+        Tilecount hooks = with(form('o', 4), true, false, 4, "##", "#.");
+        due(hooks.exact(), 1);
+        due(hooks.unlike(), 1);
     }
 
     @Says(at = 0, is = ALIKE)
@@ -600,6 +643,16 @@ final class PieceBoundary extends Checks {
         due(kinds(t, 0, 6, 1), "000000");
         due(kinds(t, 1, 6, 1), "111111");
         due(kinds(sixOn(picture("##.", ".##")), 0, 3, 2), "55..55");
+    }
+
+    @Says(at = 35, is = "`x`: the x of the cell")
+    static void theCellHasAnXFromNoughtToOneLess() {
+        range(INDEX, PieceBoundary::seven, 0, 6, (t, n) -> t.kindAt(1, n, 0));
+    }
+
+    @Says(at = 35, is = "`y`: its y")
+    static void theCellHasAYFromNoughtToOneLess() {
+        range(INDEX, () -> with(of(1, 3), true, false, 1, "###"), 0, 2, (t, n) -> t.kindAt(0, 0, n));
     }
 
     @Says(at = 35, is = {"`x`: the x of the cell", "`y`: its y"})

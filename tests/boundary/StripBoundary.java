@@ -1,5 +1,4 @@
 import java.math.BigInteger;
-import java.util.Arrays;
 
 /** The boundaries of the parts 5 and 6 and of the promises 36 to 40: strips, hexagons. */
 final class StripBoundary extends Checks {
@@ -28,43 +27,6 @@ final class StripBoundary extends Checks {
         return text(t, t.heaps(a, b, c));
     }
 
-    /** The covers of the strips of all lengths, a column after the other. */
-    private static BigInteger[] strips(int width, int most) {
-        BigInteger[] terms = new BigInteger[most + 1];
-        BigInteger[] ways = new BigInteger[1 << width];
-        Arrays.fill(ways, BigInteger.ZERO);
-        ways[0] = BigInteger.ONE;
-        for (int length = 0; length <= most; length++) {
-            terms[length] = ways[0];
-            BigInteger[] more = new BigInteger[1 << width];
-            Arrays.fill(more, BigInteger.ZERO);
-            for (int mask = 0; mask < 1 << width; mask++) {
-                for (int out = 0; out < 1 << width; out++) {
-                    if ((mask & out) == 0 && isPairs(mask | out, width)) {
-                        more[out] = more[out].add(ways[mask]);
-                    }
-                }
-            }
-            ways = more;
-        }
-        return terms;
-    }
-
-    /** Whether the open cells of a column can be taken two by two. */
-    private static boolean isPairs(int taken, int width) {
-        int open = 0;
-        for (int x = 0; x <= width; x++) {
-            if (x < width && (taken >> x & 1) == 0) {
-                open++;
-            } else if (open % 2 == 0) {
-                open = 0;
-            } else {
-                return false;
-            }
-        }
-        return true;
-    }
-
     // ---- part 5 ----
 
     @Says(at = 0, is = "that of the length 0 has one cover.")
@@ -91,7 +53,7 @@ final class StripBoundary extends Checks {
     @Says(at = 0, is = RULE)
     static void theRuleHoldsFromItsOrderOn() {
         for (int width = 1; width <= 6; width++) {
-            BigInteger[] terms = strips(width, 60);
+            BigInteger[] terms = Reckoned.strips(width, 60);
             Tilecount t = new Tilecount();
             for (int n = ORDERS[width]; n <= 60; n++) {
                 BigInteger sum = BigInteger.ZERO;
@@ -107,7 +69,7 @@ final class StripBoundary extends Checks {
     @Says(at = 0, is = RULE)
     static void noSmallerOrderHasARule() {
         for (int width = 1; width <= 6; width++) {
-            BigInteger[] terms = strips(width, 2 * ORDERS[width]);
+            BigInteger[] terms = Reckoned.strips(width, 2 * ORDERS[width]);
             due(isRegular(terms, ORDERS[width]), true);
         }
     }
@@ -146,7 +108,7 @@ final class StripBoundary extends Checks {
     @Says(at = 36, is = {"Puts how many covers a strip has into the text.", "Returns how many signs the text has then."})
     static void theLongestStripsOfEachWidth() {
         for (int width = 1; width <= 6; width++) {
-            BigInteger[] terms = strips(width, 300);
+            BigInteger[] terms = Reckoned.strips(width, 300);
             due(strip(new Tilecount(), width, 300), terms[300].toString());
             due(strip(new Tilecount(), width, 299), terms[299].toString());
         }
@@ -245,25 +207,11 @@ final class StripBoundary extends Checks {
 
     // ---- 39 ----
 
-    private static String boxes(int a, int b, int c) {
-        BigInteger top = BigInteger.ONE;
-        BigInteger bottom = BigInteger.ONE;
-        for (int i = 1; i <= a; i++) {
-            for (int j = 1; j <= b; j++) {
-                for (int k = 1; k <= c; k++) {
-                    top = top.multiply(BigInteger.valueOf(i + j + k - 1));
-                    bottom = bottom.multiply(BigInteger.valueOf(i + j + k - 2));
-                }
-            }
-        }
-        return top.divide(bottom).toString();
-    }
-
     @Says(at = 39, is = {"Puts how many covers by diamonds a hexagon has into the text, by ways that do not cross.",
         "Returns how many signs the text has then."})
     static void hexagonsFromTheSmallestToTheGreatest() {
         for (int i = 0; i < 512; i++) {
-            due(hexagon(new Tilecount(), i / 64 + 1, i / 8 % 8 + 1, i % 8 + 1), boxes(i / 64 + 1, i / 8 % 8 + 1, i % 8 + 1));
+            due(hexagon(new Tilecount(), i / 64 + 1, i / 8 % 8 + 1, i % 8 + 1), Reckoned.boxes(i / 64 + 1, i / 8 % 8 + 1, i % 8 + 1));
         }
     }
 
@@ -293,7 +241,7 @@ final class StripBoundary extends Checks {
     @Says(at = 40, is = {"Puts how many heaps a box has into the text.", "Returns how many signs the text has then."})
     static void boxesFromTheSmallestToTheGreatest() {
         for (int i = 0; i < 512; i++) {
-            due(heaps(new Tilecount(), i / 64 + 1, i / 8 % 8 + 1, i % 8 + 1), boxes(i / 64 + 1, i / 8 % 8 + 1, i % 8 + 1));
+            due(heaps(new Tilecount(), i / 64 + 1, i / 8 % 8 + 1, i % 8 + 1), Reckoned.boxes(i / 64 + 1, i / 8 % 8 + 1, i % 8 + 1));
         }
     }
 

@@ -21,6 +21,8 @@ final class TermsBoundary extends Checks {
         + "another along sides of cells of the board, is 0;";
     private static final String DARK = "along a side of a cell of the board that has a dark cell, on the board or not, on "
         + "the left hand, the height is 1 more, or, if a piece lies across the side, 3 less;";
+    private static final String TEXT = "Some calls put a number there, in digits, perhaps with '-' ahead, in place of what "
+        + "it was;";
     private static final String LIGHT = "with a light cell there 1 less, or 3 more.";
 
     // ---- the object ----
@@ -581,6 +583,28 @@ final class TermsBoundary extends Checks {
         due(two.height(0, 0), 0);
         due(two.height(2, 0), 0);
         due(two.height(3, 0), -1);
+        Tilecount below = picture("##", "..", "##");
+        below.draw(0);
+        due(below.height(0, 1), 1);
+        due(below.height(0, 2), 0);
+        due(below.height(1, 2), -1);
+        due(below.height(0, 3), 1);
+    }
+
+    @Says(at = 0, is = FIRST)
+    static void cornersAreReachedUpwardAndToTheLeft() {
+        Tilecount up = picture("#..#", "#..#", "####");
+        up.draw(0);
+        heightsFit(up, 4, 3);
+        due(up.height(3, 0), -1);
+        Tilecount left = picture("...#", "####", "#...");
+        left.draw(0);
+        due(left.height(3, 0), 0);
+        heightsFit(left, 4, 3);
+        Tilecount hook = picture("..##", "...#", "##.#", "#..#", "####");
+        hook.draw(0);
+        due(hook.height(2, 0), 0);
+        heightsFit(hook, 4, 5);
     }
 
     @Says(at = 0, is = FIRST)
@@ -632,8 +656,32 @@ final class TermsBoundary extends Checks {
         return isCrossed ? 3 : -1;
     }
 
+    @Says(at = 0, is = DARK)
+    static void withADarkCellOnTheLeftItRisesByOneOrFallsByThree() {
+        Tilecount t = of(2, 1);
+        t.draw(0);
+        due(t.height(0, 1) - t.height(0, 0), 1);
+        due(t.height(1, 0) - t.height(1, 1), -3);
+        Tilecount down = of(1, 2);
+        down.draw(0);
+        due(down.height(0, 1) - down.height(0, 0), 1);
+        due(down.height(1, 1) - down.height(0, 1), -3);
+    }
+
+    @Says(at = 0, is = LIGHT)
+    static void withALightCellOnTheLeftItFallsByOneOrRisesByThree() {
+        Tilecount t = of(2, 1);
+        t.draw(0);
+        due(t.height(1, 0) - t.height(0, 0), -1);
+        due(t.height(1, 1) - t.height(1, 0), 3);
+        Tilecount down = of(1, 2);
+        down.draw(0);
+        due(down.height(0, 2) - down.height(0, 1), -1);
+        due(down.height(0, 1) - down.height(1, 1), 3);
+    }
+
     @Says(at = 0, is = {DARK, LIGHT})
-    static void aSideRisesByOneOrFallsByThree() {
+    static void allSidesOfAllCoversRiseAndFallSo() {
         Tilecount t = of(2, 1);
         t.draw(0);
         int[] due = {0, -1, 0, 1, 2, 1};
@@ -674,7 +722,7 @@ final class TermsBoundary extends Checks {
         due(new Tilecount().checksum(), sumOf(1, 1, 0, 0, 0));
     }
 
-    @Says(at = 0, is = "Some calls put a number there, in digits, perhaps with '-' ahead, in place of what it was;")
+    @Says(at = 0, is = TEXT)
     static void aShortNumberStandsInPlaceOfALongOne() {
         Tilecount t = of(8, 8);
         due(text(t, t.strip(6, 300)).length() > 100, true);
@@ -685,7 +733,24 @@ final class TermsBoundary extends Checks {
         due(text(t, t.rule(6, 3)), "10");
     }
 
-    @Says(at = 0, is = "Some calls put a number there, in digits, perhaps with '-' ahead, in place of what it was;")
+    @Says(at = 0, is = TEXT)
+    static void noMinusIsLeftOfTheNumberAhead() {
+        Tilecount t = of(4, 4);
+        NumberCall[] calls = {(u, n) -> u.covers(), (u, n) -> u.bySigns(), (u, n) -> u.having(0, 0, true),
+            (u, n) -> u.strip(4, 4), (u, n) -> u.hexagon(2, 2, 2), (u, n) -> u.heaps(2, 2, 2), (u, n) -> u.rooks(4),
+            (u, n) -> u.loops(), (u, n) -> u.rule(4, 2)};
+        String[] due = {"36", "36", "18", "36", "20", "20", "24", "6", "5"};
+        for (int i = 0; i < calls.length; i++) {
+            due(text(t, t.rule(5, 4)), "-32");
+            due(calls[i].on(t, 0), due[i].length());
+            due(text(t), due[i]);
+        }
+        t.draw(11);
+        t.rule(5, 4);
+        due(text(t, t.number()), "11");
+    }
+
+    @Says(at = 0, is = TEXT)
     static void noOtherCallChangesTheText() {
         Tilecount t = busy(form('a', 2));
         String before = text(t);
