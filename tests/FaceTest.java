@@ -1,11 +1,21 @@
+import java.io.IOException;
 import java.lang.reflect.Constructor;
 import java.lang.reflect.Field;
 import java.lang.reflect.Method;
 import java.lang.reflect.Modifier;
+import java.nio.file.Files;
+import java.nio.file.Path;
+import java.util.ArrayList;
+import java.util.List;
 import java.util.Set;
 import java.util.TreeSet;
+import java.util.regex.Matcher;
+import java.util.regex.Pattern;
 
-/** The class shows the document's face, with its exceptions in their order, and nothing else. */
+/**
+ * The class shows the document's face, with its exceptions in their order, and nothing else; the source has its lines
+ * word by word, below the headings that the document wants ahead of them. It is run in the project's directory.
+ */
 public final class FaceTest {
 
     private static final String[] FACE = {
@@ -57,9 +67,11 @@ public final class FaceTest {
         "boolean isSound()",
     };
 
+    private static final Path DOCUMENT = Path.of("../shared/DOC.md");
+    private static final Path SOURCE = Path.of("src/main/java/Tilecount.java");
     private static int wrong = 0;
 
-    public static void main(String[] args) {
+    public static void main(String[] args) throws IOException {
         Class<?> type = Tilecount.class;
         due("public and final", Modifier.isPublic(type.getModifiers()) && Modifier.isFinal(type.getModifiers()));
         due("no package and no other class above it",
@@ -87,6 +99,7 @@ public final class FaceTest {
             due("private: " + field, Modifier.isPrivate(field.getModifiers()));
         }
         inside(type, names);
+        holdToTheDocument();
         System.out.println(FACE.length + " calls of the face, " + wrong + " wrong");
         if (wrong > 0) {
             System.exit(1);
@@ -112,6 +125,56 @@ public final class FaceTest {
             due("at most twenty fields in " + inner, fields <= 20);
         }
         due("at most twelve classes", type.getDeclaredClasses().length <= 11);
+    }
+
+    private static void holdToTheDocument() throws IOException {
+        if (!Files.exists(DOCUMENT)) {
+            System.out.println(DOCUMENT + " is not here; the source is not held to it");
+            return;
+        }
+        String document = oneLine(Files.readString(DOCUMENT));
+        String source = oneLine(Files.readString(SOURCE));
+        int from = document.indexOf("## The public face");
+        int to = document.indexOf("## Terms");
+        List<String> lines = found("(public [^;{]*?\\([^;{]*?);", document.substring(from, to));
+        due("lines in the document's face: " + lines.size(), lines.size() == FACE.length + 1);
+        for (String line : lines) {
+            due("in the source: " + line, source.contains(line + " {"));
+        }
+        Matcher heading = Pattern.compile("Ahead of the calls (.*?) the interface says: (.*?)\\.").matcher(document);
+        int headings = 0;
+        while (heading.find()) {
+            headings++;
+            List<String> calls = found("`(\\w+)`", heading.group(1));
+            List<String> below = found("public (?!class)\\w+ (\\w+)\\(", section(source, heading.group(2)));
+            due("below the heading " + heading.group(2) + ": " + calls + ", but " + below, calls.equals(below));
+        }
+        due("headings: " + headings, headings == 8);
+    }
+
+    /** What stands in the source from a heading to the next one or to the first class inside. */
+    private static String section(String source, String heading) {
+        String line = "// ---- " + heading + " ----";
+        int from = source.indexOf(line);
+        if (from < 0) {
+            return "";
+        }
+        int start = from + line.length();
+        int next = source.indexOf("// ----", start);
+        return source.substring(start, next < 0 ? source.indexOf("static final class", start) : next);
+    }
+
+    private static String oneLine(String text) {
+        return text.replaceAll("\\s+", " ");
+    }
+
+    private static List<String> found(String pattern, String text) {
+        List<String> groups = new ArrayList<>();
+        Matcher matcher = Pattern.compile(pattern).matcher(text);
+        while (matcher.find()) {
+            groups.add(matcher.group(1));
+        }
+        return groups;
     }
 
     private static String lineOf(Method method) {

@@ -846,9 +846,8 @@ public final class Tilecount {
         /** Fills fromCell for all that can come of one state at the beginning of the row, or of any one. */
         private void prepareRow(int y, int begin) {
             int masks = 1 << board.width;
-            int end = board.width * STATES;
-            System.arraycopy(fromRow, (y + 1) * MASKS, fromCell, end, masks);
-            Arrays.fill(fromCell, end + WAITING, end + STATES, 0);
+            // Behind the last cell of a row no first one waits: its states are those at the beginning of the next row.
+            System.arraycopy(fromRow, (y + 1) * MASKS, fromCell, board.width * STATES, masks);
             for (int x = board.width - 1; x >= 0; x--) {
                 // The columns on the right of the cell stand as they did at the beginning of the row.
                 int free = begin == ANY ? masks : 2 << x;
