@@ -6,7 +6,9 @@ import java.lang.reflect.Modifier;
 import java.nio.file.Files;
 import java.nio.file.Path;
 import java.util.ArrayList;
+import java.util.HashMap;
 import java.util.List;
+import java.util.Map;
 import java.util.Set;
 import java.util.TreeSet;
 import java.util.regex.Matcher;
@@ -141,27 +143,30 @@ public final class FaceTest {
         for (String line : lines) {
             due("in the source: " + line, source.contains(line + " {"));
         }
+        Map<String, List<String>> below = callsBelowHeadings();
         Matcher heading = Pattern.compile("Ahead of the calls (.*?) the interface says: (.*?)\\.").matcher(document);
         int headings = 0;
         while (heading.find()) {
             headings++;
             List<String> calls = found("`(\\w+)`", heading.group(1));
-            List<String> below = found("public (?!class)\\w+ (\\w+)\\(", section(source, heading.group(2)));
-            due("below the heading " + heading.group(2) + ": " + calls + ", but " + below, calls.equals(below));
+            List<String> own = below.get(heading.group(2));
+            due("below the heading " + heading.group(2) + ": " + calls + ", but " + own, calls.equals(own));
         }
         due("headings: " + headings, headings == 8);
     }
 
-    /** What stands in the source from a heading to the next one or to the first class inside. */
-    private static String section(String source, String heading) {
-        String line = "// ---- " + heading + " ----";
-        int from = source.indexOf(line);
-        if (from < 0) {
-            return "";
+    /** The public calls of the source by the comment of one line that they stand below. */
+    private static Map<String, List<String>> callsBelowHeadings() throws IOException {
+        Map<String, List<String>> below = new HashMap<>();
+        List<String> calls = new ArrayList<>();
+        for (String line : Files.readAllLines(SOURCE)) {
+            if (line.matches(" {4}(//|/\\*).*")) {
+                calls = new ArrayList<>();
+                below.put(line.replaceAll("^[^a-z]+|[^a-z]+$", ""), calls);
+            }
+            calls.addAll(found("^ {4}public \\w+ (\\w+)\\(", line));
         }
-        int start = from + line.length();
-        int next = source.indexOf("// ----", start);
-        return source.substring(start, next < 0 ? source.indexOf("static final class", start) : next);
+        return below;
     }
 
     private static String oneLine(String text) {
