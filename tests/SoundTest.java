@@ -98,6 +98,12 @@ public final class SoundTest {
         fault("the exact covers against their numbers", "3 by 3 and a kind",
             "if (left < many) {\n                        chosen[depth] = i;",
             "if (left <= many) {\n                        chosen[depth] = i;");
+        fault("the exact covers against their numbers: of 24 cells", "8 by 3 and a kind",
+            "if (left < many) {\n                        chosen[depth] = i;",
+            "if (left <= many) {\n                        chosen[depth] = i;");
+        fault("the exact covers against their numbers: a single one", "3 by 1 and a kind",
+            "return state < 0 ? -1 : sum;",
+            "return state < 0 ? -1 : sum + 1;");
     }
 
     private static void stripsAndHexagons() {
@@ -156,7 +162,7 @@ final class SoundProbe {
 
     static final List<String> STATES = List.of("empty", "2 by 2", "1 by 2", "2 by 1", "3 by 1", "4 by 4",
         "4 by 1, rolled", "the first cover of 2 by 2", "the first cover of 4 by 4", "a cover of 4 by 4",
-        "3 by 3 and a kind");
+        "3 by 3 and a kind", "8 by 3 and a kind", "3 by 1 and a kind");
 
     private SoundProbe() {
     }
@@ -177,7 +183,7 @@ final class SoundProbe {
             for (int x = 0; x < 3; x++) {
                 tiles.pieceCell(x, 0);
             }
-            tiles.kind(true, false, 3);
+            tiles.kind(true, false, 8);
         }
         return tiles.isSound();
     }
